@@ -147,7 +147,7 @@ public final class StatefulFirewall {
         if (!validHeader(addrs, ports, proto)) {
             return BAD;
         }
-        return decision(addrs, ports / PAIR, proto, NO_RULE);
+        return decision(addrs, ports, proto);
     }
 
     public int matchingRule(int addrs, int ports, int proto) {
@@ -162,10 +162,7 @@ public final class StatefulFirewall {
             return false;
         }
         for (int tuple = 0; tuple < RULE_DOMAIN; tuple++) {
-            int addrs = tuple % TUPLE_PORT;
-            int dport = tuple / TUPLE_PORT % PAIR;
-            int proto = tuple / TUPLE_PROTO;
-            if (firstMatch(addrs, dport, proto, NO_RULE) == index) {
+            if (firstMatchOfTuple(tuple, NO_RULE) == index) {
                 return false;
             }
         }
@@ -177,10 +174,9 @@ public final class StatefulFirewall {
             return false;
         }
         for (int tuple = 0; tuple < RULE_DOMAIN; tuple++) {
-            int addrs = tuple % TUPLE_PORT;
-            int dport = tuple / TUPLE_PORT % PAIR;
-            int proto = tuple / TUPLE_PROTO;
-            if (decision(addrs, dport, proto, NO_RULE) != decision(addrs, dport, proto, index)) {
+            int deciding = firstMatchOfTuple(tuple, NO_RULE);
+            int decidingWithout = firstMatchOfTuple(tuple, index);
+            if (actionOf(deciding) != actionOf(decidingWithout)) {
                 return false;
             }
         }
@@ -309,15 +305,23 @@ public final class StatefulFirewall {
         return inRange(index, rulesHeld - 1);
     }
 
-    /** The decision of the list without the rule at index leftOut; NO_RULE leaves none out. */
-    private int decision(int addrs, int dport, int proto, int leftOut) {
-        int index = firstMatch(addrs, dport, proto, leftOut);
-        if (index == NO_MATCH) {
-            return defaultAction;
-        }
-        return rules[RULE_PARTS * index + PROTO_ACTION] / ACTION_UNIT;
+    private int decision(int addrs, int ports, int proto) {
+        int index = firstMatch(addrs, ports / PAIR, proto, NO_RULE);
+        return actionOf(index);
     }
 
+    private int actionOf(int index) {
+        return index == NO_MATCH ? defaultAction : rules[RULE_PARTS * index + PROTO_ACTION] / ACTION_UNIT;
+    }
+
+    private int firstMatchOfTuple(int tuple, int leftOut) {
+        int addrs = tuple % TUPLE_PORT;
+        int dport = tuple / TUPLE_PORT % PAIR;
+        int proto = tuple / TUPLE_PROTO;
+        return firstMatch(addrs, dport, proto, leftOut);
+    }
+
+    /** The lowest matching index of the list without the rule leftOut; NO_RULE leaves none out. */
     private int firstMatch(int addrs, int dport, int proto, int leftOut) {
         for (int index = 0; index < rulesHeld; index++) {
             if (index != leftOut && ruleMatches(index, addrs, dport, proto)) {
@@ -375,7 +379,7 @@ public final class StatefulFirewall {
     }
 
     private int verdictOnUntracked(int addrs, int ports, int proto, int flags) {
-        if (decision(addrs, ports / PAIR, proto, NO_RULE) == DROP) {
+        if (decision(addrs, ports, proto) == DROP) {
             return V_DROP;
         }
         if (proto == TCP && flags != SYN) {

@@ -57,6 +57,10 @@ public final class Promise09RedundantTest {
         check.due("redundant(0) before another", with(1, accept, drop).redundant(0), false);
         check.due("redundant(1) behind a half", with(0, drop, all).redundant(1), false);
         check.due("redundant(1) behind a half, by default", with(1, drop, all).redundant(1), true);
+        int[] tcp = {0, 0, 240, Sample.DROP_TCP};
+        int[] udp = {0, 0, 240, Sample.DROP_UDP};
+        check.due("redundant(2) behind both protocols", with(0, tcp, udp, all).redundant(2), true);
+        check.due("redundant(1) behind one protocol", with(0, tcp, all).redundant(1), false);
     }
 
     private static void onlyOneTupleDecided(Check check) {
