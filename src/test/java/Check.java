@@ -1,19 +1,43 @@
+import java.util.Arrays;
+import java.util.function.Supplier;
+import java.util.function.ToIntFunction;
+
 /** Counts and prints the answers that are not the ones due. */
 final class Check {
     private int wrong;
+    private String sentence = "";
+
+    /** The sentence of the document that the answers from here on are due to. */
+    void sentence(String words) {
+        sentence = " (\"" + words + "\")";
+    }
 
     void due(String call, int got, int want) {
         if (got != want) {
-            wrong++;
-            System.out.println(call + " answered " + got + ", due is " + want);
+            tell(call + " answered " + got + ", due is " + want);
         }
     }
 
     void due(String call, boolean got, boolean want) {
         if (got != want) {
-            wrong++;
-            System.out.println(call + " answered " + got + ", due is " + want);
+            tell(call + " answered " + got + ", due is " + want);
         }
+    }
+
+    private void tell(String fault) {
+        wrong++;
+        System.out.println(fault + sentence);
+    }
+
+    /** The call answers as stated, and from then on the firewall is like one that was never called. */
+    void changesNothing(String name, Supplier<StatefulFirewall> place, ToIntFunction<StatefulFirewall> call, int want) {
+        StatefulFirewall called = place.get();
+        due(name, call.applyAsInt(called), want);
+        changedNothing(name, called, place.get());
+    }
+
+    void changedNothing(String name, StatefulFirewall called, StatefulFirewall untouched) {
+        due(name + " changes nothing", Arrays.equals(Future.of(called), Future.of(untouched)), true);
     }
 
     void rulesUnchanged(String call, StatefulFirewall firewall, View before) {

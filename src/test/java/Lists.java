@@ -6,14 +6,19 @@ final class Lists {
     static StatefulFirewall random(Numbers numbers) {
         StatefulFirewall firewall = new StatefulFirewall(16, 4, numbers.below(2));
         int wanted = 1 + numbers.below(16);
-        for (int i = 0; i < 200 && firewall.ruleCount() < wanted; i++) {
-            // Short prefixes and wide ranges make lists in which rules hide each other.
-            int src = Sample.prefix(numbers.below(16), numbers.below(3));
-            int dst = Sample.prefix(numbers.below(16), numbers.below(3));
-            int range = numbers.below(2) == 0 ? Sample.ALL_PORTS : numbers.below(256);
-            firewall.addRule(src, dst, range, numbers.below(7));
+        for (int i = 0; i < wanted; i++) {
+            int low = numbers.below(16);
+            int range = numbers.below(2) == 0 ? Sample.ALL_PORTS : Sample.range(low, low + numbers.below(16 - low));
+            firewall.addRule(shortPrefix(numbers), shortPrefix(numbers), range, numbers.below(3) + 4 * numbers.below(2));
         }
         return firewall;
+    }
+
+    /** Short prefixes make lists in which rules hide each other. */
+    private static int shortPrefix(Numbers numbers) {
+        int length = numbers.below(3);
+        int free = 4 - length;
+        return Sample.prefix(numbers.below(1 << length) << free, length);
     }
 
     static boolean shadowed(StatefulFirewall firewall, int index) {

@@ -29,6 +29,11 @@ final class Model {
         this.defaultAction = Math.max(0, Math.min(1, defaultAction));
     }
 
+    /** As if only accepted ticks had been called until then. */
+    void startAt(int now) {
+        this.now = now;
+    }
+
     int addRule(int src, int dst, int range, int action) {
         boolean ports = range >= 0 && range < 256 && range % 16 <= range / 16;
         boolean act = action >= 0 && action < 8 && action % 4 != 3;

@@ -2,6 +2,8 @@
 public final class ModelTest {
     private static final int RUNS = 3000;
     private static final int CALLS = 400;
+    // Leading the clock to the end of the ints takes time, so fewer runs begin there.
+    private static final int LATE_RUNS = 40;
     private static final int[] WILD = {Sample.MIN, -256, -17, -16, -3, -2, -1, 80, 101, 256, 257, 65536, Sample.MAX};
     // The flags that lead on come oftener than the others.
     private static final int[] FLAGS = {1, 3, 2, 2, 6, 6, 8};
@@ -24,12 +26,25 @@ public final class ModelTest {
 
     public static void main(String[] args) {
         for (int seed = 0; seed < RUNS; seed++) {
-            ModelTest test = new ModelTest(seed);
-            for (int call = 0; call < CALLS; call++) {
-                test.call();
-            }
-            test.check.end();
+            new ModelTest(seed).go();
         }
+        for (int seed = RUNS; seed < RUNS + LATE_RUNS; seed++) {
+            ModelTest test = new ModelTest(seed);
+            test.startAt(Sample.MAX - test.numbers.below(120));
+            test.go();
+        }
+    }
+
+    private void startAt(int now) {
+        Clock.to(firewall, now);
+        model.startAt(now);
+    }
+
+    private void go() {
+        for (int call = 0; call < CALLS; call++) {
+            call();
+        }
+        check.end();
     }
 
     private void call() {

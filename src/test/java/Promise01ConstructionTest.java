@@ -54,9 +54,11 @@ public final class Promise01ConstructionTest {
             rulesTaken(firewall);
             entriesTaken(firewall);
             firewall.tick(5);
-            while (firewall.removeRule(0) > 0) {
+            for (int left = 6; left > 0; left--) {
+                check.due("removeRule(0)", firewall.removeRule(0), left);
                 check.due("classify with rules left", firewall.classify(18, 52, 1), 1);
             }
+            check.due("removeRule(0) of the last", firewall.removeRule(0), 0);
             check.due("classify with default " + GIVEN[i] + " later", firewall.classify(18, 52, 1), ACTION[i]);
         }
     }

@@ -20,6 +20,7 @@ final class Sample {
     static final int ACCEPT_ANY = 6;
 
     // The flow 3:5 -> 9:7 and the header of its replies.
+    static final Flow FLOW = new Flow(3);
     static final int ADDRS = 3 + 16 * 9;
     static final int PORTS = 5 + 16 * 7;
     static final int REPLY_ADDRS = 9 + 16 * 3;
@@ -75,37 +76,11 @@ final class Sample {
 
     /** Sends a TCP packet of the flow; direction 0 is the origin's. */
     static int send(StatefulFirewall firewall, int direction, int flags, int seq) {
-        int addrs = direction == 0 ? ADDRS : REPLY_ADDRS;
-        int ports = direction == 0 ? PORTS : REPLY_PORTS;
-        return firewall.packet(addrs, ports, tcp(flags), seq & 255);
+        return FLOW.tcp(firewall, direction, flags, seq);
     }
 
-    /** Leads the flow into a TCP state; the SYN has the number origin and the SYN+ACK the number reply. */
     static void lead(StatefulFirewall firewall, int state, int origin, int reply) {
-        send(firewall, 0, SYN, origin);
-        if (state == StatefulFirewall.SYN_SENT) {
-            return;
-        }
-        send(firewall, 1, SYN + ACK, reply);
-        if (state == StatefulFirewall.SYN_RECV) {
-            return;
-        }
-        send(firewall, 0, ACK, origin + 1);
-        if (state == StatefulFirewall.ESTABLISHED) {
-            return;
-        }
-        if (state == StatefulFirewall.FIN_REPLY) {
-            send(firewall, 1, ACK + FIN, reply + 1);
-            return;
-        }
-        send(firewall, 0, ACK + FIN, origin + 2);
-        if (state == StatefulFirewall.FIN_ORIG) {
-            return;
-        }
-        send(firewall, 1, ACK + FIN, reply + 1);
-        if (state == StatefulFirewall.TIME_WAIT) {
-            send(firewall, 0, ACK, origin + 3);
-        }
+        FLOW.lead(firewall, state, origin, reply);
     }
 
     /** The number that the origin is to send next after lead. */
@@ -144,16 +119,8 @@ final class Sample {
         return timeouts[state];
     }
 
-    /** Leads the flow, or for a UDP state its UDP twin, into any state. */
     static void leadAny(StatefulFirewall firewall, int state) {
-        if (state < StatefulFirewall.UDP_NEW) {
-            lead(firewall, state, 9, 249);
-            return;
-        }
-        firewall.packet(ADDRS, PORTS, UDP, 0);
-        if (state == StatefulFirewall.UDP_REPLIED) {
-            firewall.packet(REPLY_ADDRS, REPLY_PORTS, UDP, 0);
-        }
+        FLOW.lead(firewall, state);
     }
 
     static int protoOfState(int state) {
