@@ -38,11 +38,12 @@ public final class Boundary07MatchingRuleTest {
             + "all match the header");
         Numbers numbers = new Numbers(7);
         for (int run = 0; run < 30; run++) {
-            StatefulFirewall firewall = Lists.random(numbers);
+            RuleList list = new RuleList(numbers);
+            StatefulFirewall firewall = list.firewall();
             for (int tuple = 0; tuple < 8192; tuple++) {
                 int want = NO_MATCH;
-                for (int rule = firewall.ruleCount() - 1; rule >= 0; rule--) {
-                    want = Lists.matches(firewall, rule, tuple) ? rule : want;
+                for (int rule = list.count() - 1; rule >= 0; rule--) {
+                    want = list.matches(rule, tuple) ? rule : want;
                 }
                 int ports = (tuple >> 8 & 15) << 4 | run & 15;
                 check.due("matchingRule", firewall.matchingRule(tuple & 255, ports, tuple >> 12), want);

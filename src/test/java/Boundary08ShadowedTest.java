@@ -113,9 +113,10 @@ public final class Boundary08ShadowedTest {
         Numbers numbers = new Numbers(88);
         int seen = 0;
         for (int run = 0; run < 60; run++) {
-            StatefulFirewall firewall = Lists.random(numbers);
-            for (int index = 0; index < firewall.ruleCount(); index++) {
-                check.due("shadowed(" + index + ")", firewall.shadowed(index), Lists.shadowed(firewall, index));
+            RuleList list = new RuleList(numbers);
+            StatefulFirewall firewall = list.firewall();
+            for (int index = 0; index < list.count(); index++) {
+                check.due("shadowed(" + index + ")", firewall.shadowed(index), list.shadowed(index));
                 if (firewall.shadowed(index)) {
                     seen++;
                     check.due("redundant(" + index + ") of a shadowed rule", firewall.redundant(index), true);
@@ -138,10 +139,11 @@ public final class Boundary08ShadowedTest {
         check.sentence("Calling removeRule(i) leaves the answer of classify unchanged for every valid header.");
         Numbers numbers = new Numbers(888);
         for (int run = 0; run < 30; run++) {
-            StatefulFirewall firewall = Lists.random(numbers);
-            for (int index = 0; index < firewall.ruleCount(); index++) {
+            RuleList list = new RuleList(numbers);
+            StatefulFirewall firewall = list.firewall();
+            for (int index = 0; index < list.count(); index++) {
                 if (firewall.shadowed(index)) {
-                    check.due("removal changes classify", Lists.removalChanges(firewall, index), false);
+                    check.due("removal changes classify", list.removalChanges(index), false);
                 }
             }
         }

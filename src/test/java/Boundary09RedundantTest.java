@@ -100,11 +100,12 @@ public final class Boundary09RedundantTest {
         Numbers numbers = new Numbers(99);
         int seen = 0;
         for (int run = 0; run < 40; run++) {
-            StatefulFirewall firewall = Lists.random(numbers);
-            for (int index = 0; index < firewall.ruleCount(); index++) {
+            RuleList list = new RuleList(numbers);
+            StatefulFirewall firewall = list.firewall();
+            for (int index = 0; index < list.count(); index++) {
                 boolean redundant = firewall.redundant(index);
                 seen += redundant ? 1 : 0;
-                check.due("removal changes classify", Lists.removalChanges(firewall, index), !redundant);
+                check.due("removal changes classify", list.removalChanges(index), !redundant);
             }
         }
         check.due("redundant rules were seen", seen > 20, true);

@@ -180,8 +180,7 @@ public final class Boundary10TrackedTest {
 
     private static void unlisted(Check check, int state, int direction, int flags, int seq) {
         String call = "flags " + flags + " and seq " + (seq & 255) + " in state " + state + ", direction " + direction;
-        StatefulFirewall firewall = inState(state).get();
-        int verdict = FLOW.tcp(firewall, direction, flags, seq);
+        int verdict = FLOW.tcp(inState(state).get(), direction, flags, seq);
         check.due(call + " passes or is invalid", verdict == V_PASS || verdict == V_INVALID, true);
         boolean mayPass = flags == SYN && state == 1 || flags == SYN_ACK && state < 3 || flags == ACK && state > 1
             || flags == ACK_FIN && state > 2;
@@ -189,7 +188,7 @@ public final class Boundary10TrackedTest {
             check.due(call, verdict, V_INVALID);
         }
         if (verdict == V_INVALID) {
-            check.changedNothing(call, firewall, inState(state).get());
+            check.changesNothing(call, inState(state), firewall -> FLOW.tcp(firewall, direction, flags, seq), V_INVALID);
         }
     }
 

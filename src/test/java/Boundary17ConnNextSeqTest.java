@@ -72,7 +72,8 @@ public final class Boundary17ConnNextSeqTest {
                 StatefulFirewall firewall = Sample.acceptAll();
                 FLOW.lead(firewall, state, seq, seq + 128);
                 check.due("connNextSeq in " + state, FLOW.nextSeq(firewall, 0), Sample.nextOrigin(state, seq));
-                check.due("connNextSeq back in " + state, FLOW.nextSeq(firewall, 1), Sample.nextReply(state, seq + 128));
+                int reply = Sample.nextReply(state, seq + 128);
+                check.due("connNextSeq back in " + state, FLOW.nextSeq(firewall, 1), reply);
             }
         }
     }

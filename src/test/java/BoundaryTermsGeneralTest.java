@@ -28,8 +28,10 @@ public final class BoundaryTermsGeneralTest {
             test.refusedTicks();
             check.sentence("A call not stated to change something changes nothing.");
             test.questionsOfRules();
-            test.questionsOfHeaders();
             test.questionsWithoutArguments();
+        }
+        for (HeaderCall call : HeaderCall.values()) {
+            Headers.asksOnly(check, call);
         }
         check.end();
     }
@@ -121,16 +123,6 @@ public final class BoundaryTermsGeneralTest {
         }
     }
 
-    private void questionsOfHeaders() {
-        int[][] headers = {{0, 0}, {255, 255}, {Sample.ADDRS, Sample.PORTS}, {Sample.REPLY_ADDRS, Sample.REPLY_PORTS}};
-        for (HeaderCall call : HeaderCall.values()) {
-            for (int[] header : headers) {
-                asks(firewall -> call.ask(firewall, header[0], header[1], 0), call.told(header[0], header[1], 0));
-                asks(firewall -> call.ask(firewall, header[0], header[1], 1), call.told(header[0], header[1], 1));
-            }
-        }
-    }
-
     private void questionsWithoutArguments() {
         asks(StatefulFirewall::ruleCount, "ruleCount()");
         asks(StatefulFirewall::connCount, "connCount()");
@@ -145,11 +137,7 @@ public final class BoundaryTermsGeneralTest {
         check.changesNothing(name, place, call, want);
     }
 
-    /** Asked twice, the firewall answers the same, and nothing has changed. */
-    private void asks(ToIntFunction<StatefulFirewall> call, String name) {
-        StatefulFirewall asked = place.get();
-        int first = call.applyAsInt(asked);
-        check.due(name + " again", call.applyAsInt(asked), first);
-        check.changedNothing(name, asked, place.get());
+    private void asks(ToIntFunction<StatefulFirewall> question, String name) {
+        check.asksOnly(name, place, question);
     }
 }

@@ -26,7 +26,8 @@ public final class BoundaryTermsHeadersTest {
                 boolean first = addrs == 15 && ports >= 240;
                 boolean second = addrs == 240 && ports <= 15;
                 int want = first ? 0 : second ? 1 : NO_MATCH;
-                check.due("matchingRule(" + addrs + ", " + ports + ", 0)", firewall.matchingRule(addrs, ports, 0), want);
+                String call = HeaderCall.MATCHING_RULE.told(addrs, ports, 0);
+                check.due(call, firewall.matchingRule(addrs, ports, 0), want);
             }
         }
     }

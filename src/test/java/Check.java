@@ -33,11 +33,33 @@ final class Check {
     void changesNothing(String name, Supplier<StatefulFirewall> place, ToIntFunction<StatefulFirewall> call, int want) {
         StatefulFirewall called = place.get();
         due(name, call.applyAsInt(called), want);
-        changedNothing(name, called, place.get());
+        same(name, Future.of(called), Future.of(place.get()));
+        // A question that changes something would do so in both futures, so there is one without questions too,
+        // and each question comes first for once.
+        same(name, Future.unasked(afterCall(place, call)), Future.unasked(place.get()));
+        for (int question = 0; question < Future.QUESTIONS; question++) {
+            int[] answers = Future.answersTo(question, afterCall(place, call));
+            same(name, answers, Future.answersTo(question, place.get()));
+        }
     }
 
-    void changedNothing(String name, StatefulFirewall called, StatefulFirewall untouched) {
-        due(name + " changes nothing", Arrays.equals(Future.of(called), Future.of(untouched)), true);
+    private static StatefulFirewall afterCall(Supplier<StatefulFirewall> place, ToIntFunction<StatefulFirewall> call) {
+        StatefulFirewall firewall = place.get();
+        call.applyAsInt(firewall);
+        return firewall;
+    }
+
+    private void same(String name, int[] got, int[] want) {
+        due(name + " changes nothing", Arrays.equals(got, want), true);
+    }
+
+    /** Asked twice, the firewall answers the same and is like one that was never asked. */
+    void asksOnly(String name, Supplier<StatefulFirewall> place, ToIntFunction<StatefulFirewall> question) {
+        int answer = question.applyAsInt(place.get());
+        changesNothing(name, place, question, answer);
+        StatefulFirewall asked = place.get();
+        question.applyAsInt(asked);
+        due(name + " again", question.applyAsInt(asked), answer);
     }
 
     void rulesUnchanged(String call, StatefulFirewall firewall, View before) {

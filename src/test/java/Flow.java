@@ -1,9 +1,12 @@
-/** The flow source:5 -> 9:7, over TCP or over UDP, that a test leads through the states. */
+/** The flow from an address to 9:7, over TCP or over UDP, that a test leads through the states. */
 final class Flow {
     private final int source;
+    private final int sourcePort;
 
+    /** The source also tells the source port, so that two flows differ in both. */
     Flow(int source) {
         this.source = source;
+        sourcePort = source + 2 & 15;
     }
 
     int addrs(int direction) {
@@ -11,7 +14,7 @@ final class Flow {
     }
 
     int ports(int direction) {
-        return direction == 0 ? 5 + 16 * 7 : 7 + 16 * 5;
+        return direction == 0 ? sourcePort + 16 * 7 : 7 + 16 * sourcePort;
     }
 
     int tcp(StatefulFirewall firewall, int direction, int flags, int seq) {

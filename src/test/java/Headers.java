@@ -40,19 +40,24 @@ final class Headers {
             firewall -> call.ask(firewall, addrs, ports, proto), BAD);
     }
 
-    /** Asked for a tracked flow, for its reply and for none, the firewall goes on as if it had not been asked. */
+    /** Asked for flows in every state, for their replies and for none, the firewall goes on as if it had not been. */
     static void asksOnly(Check check, HeaderCall call) {
-        int[][] headers = {{Sample.ADDRS, Sample.PORTS}, {Sample.REPLY_ADDRS, Sample.REPLY_PORTS}, {0, 0}, {255, 255}};
         for (Supplier<StatefulFirewall> place : Places.ALL) {
-            for (int[] header : headers) {
-                for (int proto = 0; proto < 2; proto++) {
-                    StatefulFirewall asked = place.get();
-                    int first = call.ask(asked, header[0], header[1], proto);
-                    String told = call.told(header[0], header[1], proto);
-                    check.due(told + " again", call.ask(asked, header[0], header[1], proto), first);
-                    check.changedNothing(told, asked, place.get());
-                }
+            asksOnly(check, call, place, 0, 0);
+            asksOnly(check, call, place, 255, 255);
+            for (int direction = 0; direction < 2; direction++) {
+                asksOnly(check, call, place, Sample.FLOW.addrs(direction), Sample.FLOW.ports(direction));
             }
         }
+        for (int source = 0; source < 16; source++) {
+            Flow flow = new Flow(source);
+            asksOnly(check, call, Places::fullOfSixteen, flow.addrs(0), flow.ports(0));
+            asksOnly(check, call, Places::fullOfSixteen, flow.addrs(1), flow.ports(1));
+        }
+    }
+
+    private static void asksOnly(Check check, HeaderCall call, Supplier<StatefulFirewall> place, int addrs, int ports) {
+        check.asksOnly(call.told(addrs, ports, 0), place, firewall -> call.ask(firewall, addrs, ports, 0));
+        check.asksOnly(call.told(addrs, ports, 1), place, firewall -> call.ask(firewall, addrs, ports, 1));
     }
 }

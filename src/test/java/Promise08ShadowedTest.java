@@ -156,12 +156,13 @@ public final class Promise08ShadowedTest {
     private static void shadowedMeansRedundant(Check check) {
         Numbers numbers = new Numbers(8);
         for (int run = 0; run < 40; run++) {
-            StatefulFirewall firewall = Lists.random(numbers);
-            for (int index = 0; index < firewall.ruleCount(); index++) {
-                check.due("shadowed as the words say", firewall.shadowed(index), Lists.shadowed(firewall, index));
+            RuleList list = new RuleList(numbers);
+            StatefulFirewall firewall = list.firewall();
+            for (int index = 0; index < list.count(); index++) {
+                check.due("shadowed as the words say", firewall.shadowed(index), list.shadowed(index));
                 if (firewall.shadowed(index)) {
                     check.due("redundant of a shadowed rule", firewall.redundant(index), true);
-                    check.due("removal changes a decision", Lists.removalChanges(firewall, index), false);
+                    check.due("removal changes a decision", list.removalChanges(index), false);
                 }
             }
         }

@@ -102,9 +102,10 @@ public final class Promise09RedundantTest {
     private static void asTheWordsSay(Check check) {
         Numbers numbers = new Numbers(9);
         for (int run = 0; run < 40; run++) {
-            StatefulFirewall firewall = Lists.random(numbers);
-            for (int index = 0; index < firewall.ruleCount(); index++) {
-                check.due("redundant as the words say", firewall.redundant(index), !Lists.removalChanges(firewall, index));
+            RuleList list = new RuleList(numbers);
+            StatefulFirewall firewall = list.firewall();
+            for (int index = 0; index < list.count(); index++) {
+                check.due("redundant as the words say", firewall.redundant(index), !list.removalChanges(index));
             }
         }
     }
