@@ -1,5 +1,5 @@
-/** The boundary cases that "Terms" names under "Rules" and "Decision". */
-public final class BoundaryTermsRulesTest {
+/** Every sentence of "Terms" under "Rules" and "Decision". */
+public final class SentencesTermsRulesTest {
     private static final int BAD = StatefulFirewall.BAD;
     private static final int NO_MATCH = StatefulFirewall.NO_MATCH;
 

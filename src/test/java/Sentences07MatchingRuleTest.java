@@ -1,5 +1,5 @@
-/** The boundary cases that promise 7 names. */
-public final class Boundary07MatchingRuleTest {
+/** Every sentence of promise 7. */
+public final class Sentences07MatchingRuleTest {
     private static final int NO_MATCH = StatefulFirewall.NO_MATCH;
 
     public static void main(String[] args) {
@@ -14,7 +14,7 @@ public final class Boundary07MatchingRuleTest {
     }
 
     private static void refusesInvalidHeaders(Check check) {
-        check.sentence("answers BAD for an invalid header");
+        check.sentence("matchingRule(addrs, ports, proto) answers BAD for an invalid header.");
         Headers.refusesInvalid(check, HeaderCall.MATCHING_RULE);
     }
 

@@ -1,7 +1,7 @@
 import java.util.function.Supplier;
 
-/** The boundary cases that promise 11 names, but for the wrap-around, which Boundary11WrapAroundTest goes through. */
-public final class Boundary11TickTest {
+/** Every sentence of promise 11 but the one on the wrap-around, which Sentences11WrapAroundTest goes through. */
+public final class Sentences11TickTest {
     private static final int BAD = StatefulFirewall.BAD;
 
     public static void main(String[] args) {
@@ -17,7 +17,7 @@ public final class Boundary11TickTest {
     }
 
     private static void refusesBesideOneToHundred(Check check) {
-        check.sentence("answers BAD and changes nothing unless 1 <= n <= 100");
+        check.sentence("tick(n) answers BAD and changes nothing unless 1 <= n <= 100");
         for (Supplier<StatefulFirewall> place : Places.ALL) {
             check.changesNothing("tick(0)", place, firewall -> firewall.tick(0), BAD);
             for (int n : Sample.outside(100)) {

@@ -2,14 +2,14 @@ import java.util.function.Supplier;
 import java.util.function.ToIntFunction;
 
 /** What "Terms" says under "General": refused calls, and calls that only ask, in every place. */
-public final class BoundaryTermsGeneralTest {
+public final class SentencesTermsGeneralTest {
     private static final int BAD = StatefulFirewall.BAD;
 
     private final Check check;
     private final Supplier<StatefulFirewall> place;
     private final int rules;
 
-    private BoundaryTermsGeneralTest(Check check, Supplier<StatefulFirewall> place) {
+    private SentencesTermsGeneralTest(Check check, Supplier<StatefulFirewall> place) {
         this.check = check;
         this.place = place;
         rules = place.get().ruleCount();
@@ -19,7 +19,7 @@ public final class BoundaryTermsGeneralTest {
         Check check = new Check();
         placesAreAsTold(check);
         for (Supplier<StatefulFirewall> place : Places.ALL) {
-            BoundaryTermsGeneralTest test = new BoundaryTermsGeneralTest(check, place);
+            SentencesTermsGeneralTest test = new SentencesTermsGeneralTest(check, place);
             check.sentence("Every refused call answers as stated and changes nothing.");
             test.refusedRules();
             test.refusedIndices();

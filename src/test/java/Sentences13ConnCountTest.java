@@ -1,5 +1,5 @@
-/** The boundary cases that promise 13 names. */
-public final class Boundary13ConnCountTest {
+/** Every sentence of promise 13. */
+public final class Sentences13ConnCountTest {
     public static void main(String[] args) {
         Check check = new Check();
         countIsWithinTheCapacity(check);
@@ -9,7 +9,7 @@ public final class Boundary13ConnCountTest {
     }
 
     private static void countIsWithinTheCapacity(Check check) {
-        check.sentence("answers the number of entries in the table, which is always in 0..connCap");
+        check.sentence("connCount() answers the number of entries in the table, which is always in 0..connCap");
         for (int cap = 4; cap <= 16; cap++) {
             StatefulFirewall firewall = new StatefulFirewall(4, cap, StatefulFirewall.ACCEPT);
             for (int round = 0; round < 3; round++) {
@@ -24,7 +24,7 @@ public final class Boundary13ConnCountTest {
     }
 
     private static void resetsTakeItDownToZero(Check check) {
-        check.sentence("answers the number of entries in the table");
+        check.sentence("connCount() answers the number of entries in the table");
         StatefulFirewall firewall = Sample.acceptAll();
         for (int source = 0; source < 16; source++) {
             new Flow(source).lead(firewall, 1 + source % 7);

@@ -1,5 +1,5 @@
-/** The boundary cases that promise 4 names. */
-public final class Boundary04RuleCountTest {
+/** Every sentence of promise 4. */
+public final class Sentences04RuleCountTest {
     public static void main(String[] args) {
         Check check = new Check();
         countIsWithinTheCapacity(check);
@@ -8,7 +8,7 @@ public final class Boundary04RuleCountTest {
     }
 
     private static void countIsWithinTheCapacity(Check check) {
-        check.sentence("answers the number of rules in the list, which is always in 0..ruleCap");
+        check.sentence("ruleCount() answers the number of rules in the list, which is always in 0..ruleCap");
         for (int cap = 4; cap <= 16; cap++) {
             StatefulFirewall firewall = new StatefulFirewall(cap, 4, 0);
             for (int i = 0; i <= cap + 3; i++) {

@@ -1,14 +1,32 @@
 import java.util.function.Supplier;
 
-/** The boundary cases that promise 12 names; the wrap-around stands in Boundary11WrapAroundTest. */
-public final class Boundary12NowTest {
+/** Every sentence of promise 12; the wrap-around stands in Sentences11WrapAroundTest. */
+public final class Sentences12NowTest {
     public static void main(String[] args) {
         Check check = new Check();
+        answersTheClock(check);
         zeroAfterConstruction(check);
         onlyAcceptedTicksMoveIt(check);
         noOtherCallMovesIt(check);
         asksOnly(check);
         check.end();
+    }
+
+    private static void answersTheClock(Check check) {
+        check.sentence("now() answers the clock.");
+        StatefulFirewall firewall = Sample.acceptAll();
+        Flow flow = new Flow(3);
+        flow.lead(firewall, StatefulFirewall.ESTABLISHED);
+        // The clock is what the entries expire by: 40 after the last packet, whatever the steps are.
+        int clock = 0;
+        for (int n : new int[] {1, 7, 3, 20, 8}) {
+            firewall.tick(n);
+            clock += n;
+            check.due("now()", firewall.now(), clock);
+            check.due("now() and the time left", firewall.now() + flow.timeLeft(firewall, Sample.TCP), 40);
+        }
+        check.due("tick(1) to the expiry", firewall.tick(1), 1);
+        check.due("now() at the expiry", firewall.now(), 40);
     }
 
     private static void zeroAfterConstruction(Check check) {

@@ -1,5 +1,5 @@
-/** The boundary cases that promise 8 names. */
-public final class Boundary08ShadowedTest {
+/** Every sentence of promise 8. */
+public final class Sentences08ShadowedTest {
     public static void main(String[] args) {
         Check check = new Check();
         falseBesideTheList(check);
@@ -22,7 +22,7 @@ public final class Boundary08ShadowedTest {
     }
 
     private static void falseBesideTheList(Check check) {
-        check.sentence("answers false if index is not in 0..count-1");
+        check.sentence("shadowed(index) answers false if index is not in 0..count-1");
         for (int count = 1; count <= 16; count++) {
             int held = count;
             for (int index : Sample.outside(count - 1)) {
@@ -39,7 +39,7 @@ public final class Boundary08ShadowedTest {
     }
 
     private static void falseForAnEmptyList(Check check) {
-        check.sentence("answers false if index is not in 0..count-1");
+        check.sentence("shadowed(index) answers false if index is not in 0..count-1");
         StatefulFirewall firewall = sameRules(0);
         for (int index = -17; index <= 17; index++) {
             check.due("shadowed(" + index + ") of none", firewall.shadowed(index), false);
@@ -54,8 +54,8 @@ public final class Boundary08ShadowedTest {
     }
 
     private static void trueOnlyIfEveryTupleIsMatched(Check check) {
-        check.sentence("answers true iff every tuple of the rule domain that rule index matches is also matched "
-            + "by some rule of lower index");
+        check.sentence("Otherwise it answers true iff every tuple of the rule domain that rule index matches "
+            + "is also matched by some rule of lower index.");
         // Each part of the second rule is the first's own, one narrower, one wider, or one beside it.
         int[] sources = {Sample.prefix(4, 2), Sample.prefix(4, 3), Sample.prefix(0, 1), Sample.prefix(8, 2)};
         int[] targets = {Sample.prefix(8, 2), Sample.prefix(10, 3), Sample.prefix(8, 1), Sample.prefix(12, 2)};
@@ -109,7 +109,7 @@ public final class Boundary08ShadowedTest {
     }
 
     private static void shadowedIsRedundantToo(Check check) {
-        check.sentence("redundant(i) also answers true.");
+        check.sentence("Whenever shadowed(i) answers true, two further facts hold. redundant(i) also answers true.");
         Numbers numbers = new Numbers(88);
         int seen = 0;
         for (int run = 0; run < 60; run++) {
@@ -136,7 +136,8 @@ public final class Boundary08ShadowedTest {
     }
 
     private static void removalLeavesClassify(Check check) {
-        check.sentence("Calling removeRule(i) leaves the answer of classify unchanged for every valid header.");
+        check.sentence("Whenever shadowed(i) answers true, two further facts hold. redundant(i) also answers true. "
+            + "Calling removeRule(i) leaves the answer of classify unchanged for every valid header.");
         Numbers numbers = new Numbers(888);
         for (int run = 0; run < 30; run++) {
             RuleList list = new RuleList(numbers);

@@ -1,11 +1,12 @@
-/** The boundary cases that promise 3 names. */
-public final class Boundary03RemoveRuleTest {
+/** Every sentence of promise 3. */
+public final class Sentences03RemoveRuleTest {
     private static final int BAD = StatefulFirewall.BAD;
 
     public static void main(String[] args) {
         Check check = new Check();
         refusesIndicesBesideTheList(check);
         refusesEveryIndexOfAnEmptyList(check);
+        removesThatRule(check);
         laterRulesMoveDown(check);
         answersTheNewCount(check);
         leavesTableAndClock(check);
@@ -21,7 +22,7 @@ public final class Boundary03RemoveRuleTest {
     }
 
     private static void refusesIndicesBesideTheList(Check check) {
-        check.sentence("answers BAD and changes nothing if index is not in 0..count-1");
+        check.sentence("removeRule(index) answers BAD and changes nothing if index is not in 0..count-1");
         for (int count = 1; count <= 16; count++) {
             int held = count;
             for (int index : Sample.outside(count - 1)) {
@@ -39,7 +40,7 @@ public final class Boundary03RemoveRuleTest {
             int asked = index;
             check.changesNothing("removeRule(" + index + ") of none", () -> listOf(0),
                 firewall -> firewall.removeRule(asked), BAD);
-            check.changesNothing("removeRule(" + index + ") of none any more", Boundary03RemoveRuleTest::emptied,
+            check.changesNothing("removeRule(" + index + ") of none any more", Sentences03RemoveRuleTest::emptied,
                 firewall -> firewall.removeRule(asked), BAD);
         }
         for (int index : Sample.outside(0)) {
@@ -55,6 +56,23 @@ public final class Boundary03RemoveRuleTest {
             firewall.removeRule(0);
         }
         return firewall;
+    }
+
+    private static void removesThatRule(Check check) {
+        check.sentence("Otherwise it removes that rule.");
+        for (int index = 0; index < 16; index++) {
+            StatefulFirewall firewall = listOf(16);
+            // The list has one rule from each source to a target of its own, over the ports from the source's number.
+            int addrs = index + 16 * (15 - index);
+            int proto = index % 3 == StatefulFirewall.UDP ? Sample.UDP : Sample.TCP;
+            check.due("matchingRule before", firewall.matchingRule(addrs, 255, proto), index);
+            firewall.removeRule(index);
+            check.due("matchingRule after", firewall.matchingRule(addrs, 255, proto), StatefulFirewall.NO_MATCH);
+            check.due("classify after", firewall.classify(addrs, 255, proto), StatefulFirewall.DROP);
+            for (int rule = 0; rule < 16; rule++) {
+                check.due("rule " + rule + " is the removed one", firewall.ruleInfo(rule, 0) == 64 + index, false);
+            }
+        }
     }
 
     private static void laterRulesMoveDown(Check check) {

@@ -1,5 +1,5 @@
-/** The boundary cases that promise 1 names. */
-public final class Boundary01ConstructionTest {
+/** Every sentence of promise 1. */
+public final class Sentences01ConstructionTest {
     private static final int BAD = StatefulFirewall.BAD;
     private static final int DROP = StatefulFirewall.DROP;
     private static final int ACCEPT = StatefulFirewall.ACCEPT;
@@ -22,7 +22,8 @@ public final class Boundary01ConstructionTest {
     }
 
     private static void acceptsAnyInt(Check check) {
-        check.sentence("accepts any int for each argument. It never fails.");
+        check.sentence("StatefulFirewall(ruleCap, connCap, defaultAction) accepts any int for each argument. "
+            + "It never fails.");
         for (int ruleCap : INTS) {
             for (int connCap : INTS) {
                 for (int defaultAction : INTS) {

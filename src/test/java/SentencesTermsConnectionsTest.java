@@ -1,5 +1,5 @@
-/** The boundary cases that "Terms" names from "Connections" to "Timeout of a state". */
-public final class BoundaryTermsConnectionsTest {
+/** Every sentence of "Terms" on the table, the sequence numbers, the clock and the timeouts. */
+public final class SentencesTermsConnectionsTest {
     private static final int NO_MATCH = StatefulFirewall.NO_MATCH;
     private static final int V_PASS = StatefulFirewall.V_PASS;
     private static final int V_INVALID = StatefulFirewall.V_INVALID;

@@ -1,5 +1,5 @@
 /** The wrap-around of the clock and of the expiries, which promises 11, 12 and 16 name. */
-public final class Boundary11WrapAroundTest {
+public final class Sentences11WrapAroundTest {
     private static final int MAX = Integer.MAX_VALUE;
     private static final int MIN = Integer.MIN_VALUE;
     private static final Flow FLOW = new Flow(3);

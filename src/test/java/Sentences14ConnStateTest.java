@@ -1,5 +1,5 @@
-/** The boundary cases that promise 14 names. */
-public final class Boundary14ConnStateTest {
+/** Every sentence of promise 14. */
+public final class Sentences14ConnStateTest {
     private static final int NONE = StatefulFirewall.NONE;
 
     public static void main(String[] args) {
@@ -12,7 +12,7 @@ public final class Boundary14ConnStateTest {
     }
 
     private static void refusesInvalidHeaders(Check check) {
-        check.sentence("answers BAD for an invalid header");
+        check.sentence("connState(addrs, ports, proto) answers BAD for an invalid header.");
         Headers.refusesInvalid(check, HeaderCall.CONN_STATE);
     }
 

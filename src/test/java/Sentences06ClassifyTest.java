@@ -1,5 +1,5 @@
-/** The boundary cases that promise 6 names. */
-public final class Boundary06ClassifyTest {
+/** Every sentence of promise 6. */
+public final class Sentences06ClassifyTest {
     private static final int BAD = StatefulFirewall.BAD;
     private static final int DROP = StatefulFirewall.DROP;
     private static final int ACCEPT = StatefulFirewall.ACCEPT;
@@ -7,7 +7,9 @@ public final class Boundary06ClassifyTest {
     public static void main(String[] args) {
         Check check = new Check();
         refusesInvalidHeaders(check);
+        decidesTheTuple(check);
         sportPlaysNoPart(check);
+        holdsInEveryState(check);
         followsTheIndex(check);
         followsTheDefault(check);
         entriesPlayNoPart(check);
@@ -16,8 +18,25 @@ public final class Boundary06ClassifyTest {
     }
 
     private static void refusesInvalidHeaders(Check check) {
-        check.sentence("answers BAD for an invalid header");
+        check.sentence("classify(addrs, ports, proto) answers BAD for an invalid header.");
         Headers.refusesInvalid(check, HeaderCall.CLASSIFY);
+    }
+
+    private static void decidesTheTuple(Check check) {
+        check.sentence("Otherwise it answers the decision (DROP or ACCEPT) for the tuple (src, dst, dport, proto) "
+            + "taken from the header");
+        for (int action = 0; action < 2; action++) {
+            StatefulFirewall firewall = new StatefulFirewall(4, 4, 1 - action);
+            firewall.addRule(Sample.prefix(11, 4), Sample.prefix(6, 4), Sample.range(13, 13), 1 + 4 * action);
+            for (int header = 0; header < Sample.HEADERS; header++) {
+                int addrs = Sample.addrsOf(header);
+                int ports = Sample.portsOf(header);
+                int proto = Sample.protoOf(header);
+                boolean decided = addrs == 11 + 16 * 6 && ports >> 4 == 13 && proto == 1;
+                int want = decided ? action : 1 - action;
+                check.due(HeaderCall.CLASSIFY.told(addrs, ports, proto), firewall.classify(addrs, ports, proto), want);
+            }
+        }
     }
 
     private static void sportPlaysNoPart(Check check) {
@@ -27,6 +46,43 @@ public final class Boundary06ClassifyTest {
         for (int sport = 0; sport < 16; sport++) {
             check.due("classify from " + sport + " to 15", firewall.classify(0, sport + 16 * 15, 0), ACCEPT);
             check.due("classify from " + sport + " to 14", firewall.classify(0, sport + 16 * 14, 0), DROP);
+        }
+    }
+
+    private static void holdsInEveryState(Check check) {
+        check.sentence("In every state reached by any sequence of calls, the answer is as follows");
+        Numbers numbers = new Numbers(66);
+        for (int run = 0; run < 200; run++) {
+            int byDefault = numbers.below(2);
+            StatefulFirewall firewall = new StatefulFirewall(numbers.below(20), numbers.below(20), byDefault);
+            for (int call = 0; call < 60; call++) {
+                anyCall(firewall, numbers);
+                follows(check, firewall, numbers, byDefault);
+            }
+        }
+    }
+
+    private static void anyCall(StatefulFirewall firewall, Numbers numbers) {
+        int kind = numbers.below(8);
+        if (kind < 3) {
+            firewall.addRule(8 * numbers.below(11), 8 * numbers.below(11), 16 * numbers.below(17), numbers.below(9));
+        } else if (kind < 4) {
+            firewall.removeRule(numbers.below(17) - 1);
+        } else if (kind < 5) {
+            firewall.tick(numbers.below(12));
+        } else {
+            firewall.packet(numbers.below(257), numbers.below(257), numbers.below(4), numbers.below(257));
+        }
+    }
+
+    private static void follows(Check check, StatefulFirewall firewall, Numbers numbers, int byDefault) {
+        for (int i = 0; i < 10; i++) {
+            int addrs = numbers.below(256);
+            int ports = numbers.below(256);
+            int proto = numbers.below(2);
+            int index = firewall.matchingRule(addrs, ports, proto);
+            int want = index == StatefulFirewall.NO_MATCH ? byDefault : firewall.ruleInfo(index, 3) / 4;
+            check.due(HeaderCall.CLASSIFY.told(addrs, ports, proto), firewall.classify(addrs, ports, proto), want);
         }
     }
 

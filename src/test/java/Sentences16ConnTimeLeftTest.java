@@ -1,5 +1,5 @@
-/** The boundary cases that promise 16 names; every state over the wrap-around stands in Boundary11WrapAroundTest. */
-public final class Boundary16ConnTimeLeftTest {
+/** Every sentence of promise 16; every state over the wrap-around stands in Sentences11WrapAroundTest. */
+public final class Sentences16ConnTimeLeftTest {
     private static final int NO_MATCH = StatefulFirewall.NO_MATCH;
 
     public static void main(String[] args) {
@@ -13,7 +13,7 @@ public final class Boundary16ConnTimeLeftTest {
     }
 
     private static void refusesInvalidHeaders(Check check) {
-        check.sentence("answers BAD for an invalid header");
+        check.sentence("connTimeLeft(addrs, ports, proto) answers BAD for an invalid header.");
         Headers.refusesInvalid(check, HeaderCall.CONN_TIME_LEFT);
     }
 

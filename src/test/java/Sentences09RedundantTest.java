@@ -1,5 +1,5 @@
-/** The boundary cases that promise 9 names. */
-public final class Boundary09RedundantTest {
+/** Every sentence of promise 9. */
+public final class Sentences09RedundantTest {
     public static void main(String[] args) {
         Check check = new Check();
         falseBesideTheList(check);
@@ -21,7 +21,7 @@ public final class Boundary09RedundantTest {
     }
 
     private static void falseBesideTheList(Check check) {
-        check.sentence("answers false if index is not in 0..count-1");
+        check.sentence("redundant(index) answers false if index is not in 0..count-1");
         for (int count = 1; count <= 16; count++) {
             int held = count;
             for (int index : Sample.outside(count - 1)) {
@@ -34,7 +34,7 @@ public final class Boundary09RedundantTest {
     }
 
     private static void falseForAnEmptyList(Check check) {
-        check.sentence("answers false if index is not in 0..count-1");
+        check.sentence("redundant(index) answers false if index is not in 0..count-1");
         StatefulFirewall firewall = sameRules(1);
         check.due("redundant(0) of one", firewall.redundant(0), true);
         firewall.removeRule(0);
@@ -45,8 +45,8 @@ public final class Boundary09RedundantTest {
     }
 
     private static void oneTupleIsEnough(Check check) {
-        check.sentence("answers true iff, for every tuple of the rule domain, the decision equals the decision "
-            + "that the list without this rule would give");
+        check.sentence("Otherwise it answers true iff, for every tuple of the rule domain, the decision equals "
+            + "the decision that the list without this rule would give.");
         for (int byDefault = 0; byDefault < 2; byDefault++) {
             // The rule and the default differ on all that the rule before it leaves of them: one tuple, or none.
             for (int last = 14; last <= 15; last++) {

@@ -1,5 +1,5 @@
-/** The boundary cases that promise 5 names. */
-public final class Boundary05RuleInfoTest {
+/** Every sentence of promise 5. */
+public final class Sentences05RuleInfoTest {
     private static final int BAD = StatefulFirewall.BAD;
 
     public static void main(String[] args) {
@@ -8,6 +8,7 @@ public final class Boundary05RuleInfoTest {
         refusesEveryIndexOfAnEmptyList(check);
         refusesPartsBesideTheRule(check);
         indexAndPartAreLookedAtApart(check);
+        partsComeInOrder(check);
         answersAsGiven(check);
         asksOnly(check);
         check.end();
@@ -27,7 +28,7 @@ public final class Boundary05RuleInfoTest {
     }
 
     private static void refusesIndicesBesideTheList(Check check) {
-        check.sentence("answers BAD if index is not in 0..count-1");
+        check.sentence("ruleInfo(index, part) answers BAD if index is not in 0..count-1");
         for (int count = 1; count <= 16; count++) {
             StatefulFirewall firewall = listOf(count);
             for (int part = 0; part < 4; part++) {
@@ -45,7 +46,7 @@ public final class Boundary05RuleInfoTest {
     }
 
     private static void refusesEveryIndexOfAnEmptyList(Check check) {
-        check.sentence("answers BAD if index is not in 0..count-1");
+        check.sentence("ruleInfo(index, part) answers BAD if index is not in 0..count-1");
         StatefulFirewall firewall = listOf(0);
         for (int index = -17; index <= 17; index++) {
             for (int part = -1; part <= 4; part++) {
@@ -69,7 +70,7 @@ public final class Boundary05RuleInfoTest {
     }
 
     private static void indexAndPartAreLookedAtApart(Check check) {
-        check.sentence("answers BAD if index is not in 0..count-1 or part is not in 0..3");
+        check.sentence("ruleInfo(index, part) answers BAD if index is not in 0..count-1 or part is not in 0..3");
         StatefulFirewall firewall = listOf(4);
         // Both wrong, so that together they might fall on a stored value.
         for (int index = -40; index <= 40; index++) {
@@ -82,6 +83,26 @@ public final class Boundary05RuleInfoTest {
         check.due("ruleInfo(1 << 30, 0)", firewall.ruleInfo(1 << 30, 0), BAD);
         check.due("ruleInfo(MIN, MIN)", firewall.ruleInfo(Sample.MIN, Sample.MIN), BAD);
         check.due("ruleInfo(MAX, MAX)", firewall.ruleInfo(Sample.MAX, Sample.MAX), BAD);
+    }
+
+    private static void partsComeInOrder(Check check) {
+        check.sentence("Otherwise it answers the stored value of the rule at that index: "
+            + "part 0: srcPrefix; part 1: dstPrefix; part 2: portRange; part 3: protoAction.");
+        StatefulFirewall firewall = new StatefulFirewall(4, 4, 0);
+        int srcPrefix = Sample.prefix(10, 3);
+        int dstPrefix = Sample.prefix(7, 4);
+        int portRange = Sample.range(2, 11);
+        int protoAction = Sample.ACCEPT_UDP;
+        firewall.addRule(dstPrefix, srcPrefix, Sample.range(5, 5), Sample.DROP_ANY);
+        firewall.addRule(srcPrefix, dstPrefix, portRange, protoAction);
+        check.due("ruleInfo(1, 0)", firewall.ruleInfo(1, 0), 58);
+        check.due("ruleInfo(1, 1)", firewall.ruleInfo(1, 1), 71);
+        check.due("ruleInfo(1, 2)", firewall.ruleInfo(1, 2), 178);
+        check.due("ruleInfo(1, 3)", firewall.ruleInfo(1, 3), 5);
+        check.due("ruleInfo(0, 0)", firewall.ruleInfo(0, 0), 71);
+        check.due("ruleInfo(0, 1)", firewall.ruleInfo(0, 1), 58);
+        check.due("ruleInfo(0, 2)", firewall.ruleInfo(0, 2), 85);
+        check.due("ruleInfo(0, 3)", firewall.ruleInfo(0, 3), 2);
     }
 
     private static void answersAsGiven(Check check) {

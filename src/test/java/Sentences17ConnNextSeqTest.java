@@ -1,11 +1,12 @@
-/** The boundary cases that promise 17 names. */
-public final class Boundary17ConnNextSeqTest {
+/** Every sentence of promise 17. */
+public final class Sentences17ConnNextSeqTest {
     private static final int NO_MATCH = StatefulFirewall.NO_MATCH;
     private static final Flow FLOW = new Flow(15);
 
     public static void main(String[] args) {
         Check check = new Check();
         refusesInvalidHeaders(check);
+        noMatchInThreeCasesAlone(check);
         noMatchWithoutAnEntry(check);
         noMatchForUdp(check);
         noMatchWhileUnset(check);
@@ -16,8 +17,25 @@ public final class Boundary17ConnNextSeqTest {
     }
 
     private static void refusesInvalidHeaders(Check check) {
-        check.sentence("answers BAD for an invalid header");
+        check.sentence("connNextSeq(addrs, ports, proto) answers BAD for an invalid header.");
         Headers.refusesInvalid(check, HeaderCall.CONN_NEXT_SEQ);
+    }
+
+    private static void noMatchInThreeCasesAlone(Check check) {
+        check.sentence("Otherwise it answers NO_MATCH in three cases");
+        for (int state = 1; state <= 9; state++) {
+            StatefulFirewall firewall = Sample.acceptAll();
+            FLOW.lead(firewall, state);
+            int answered = 0;
+            for (int header = 0; header < Sample.HEADERS; header++) {
+                int addrs = Sample.addrsOf(header);
+                int ports = Sample.portsOf(header);
+                answered += firewall.connNextSeq(addrs, ports, Sample.protoOf(header)) == NO_MATCH ? 0 : 1;
+            }
+            int sides = state == StatefulFirewall.SYN_SENT ? 1 : 2;
+            int want = Sample.protoOfState(state) == Sample.UDP ? 0 : sides;
+            check.due("headers with a next number in state " + state, answered, want);
+        }
     }
 
     private static void noMatchWithoutAnEntry(Check check) {

@@ -1,5 +1,5 @@
-/** The boundary cases that promise 15 names. */
-public final class Boundary15ConnDirectionTest {
+/** Every sentence of promise 15. */
+public final class Sentences15ConnDirectionTest {
     private static final int NO_MATCH = StatefulFirewall.NO_MATCH;
 
     public static void main(String[] args) {
@@ -12,7 +12,7 @@ public final class Boundary15ConnDirectionTest {
     }
 
     private static void refusesInvalidHeaders(Check check) {
-        check.sentence("answers BAD for an invalid header");
+        check.sentence("connDirection(addrs, ports, proto) answers BAD for an invalid header.");
         Headers.refusesInvalid(check, HeaderCall.CONN_DIRECTION);
     }
 

@@ -1,7 +1,7 @@
 import java.util.function.Supplier;
 
-/** The boundary cases that promise 10 names in its step 2, where an entry is found. */
-public final class Boundary10TrackedTest {
+/** Every sentence of promise 10 on its step 2, where an entry is found. */
+public final class Sentences10TrackedTest {
     private static final int V_DROP = StatefulFirewall.V_DROP;
     private static final int V_PASS = StatefulFirewall.V_PASS;
     private static final int V_INVALID = StatefulFirewall.V_INVALID;
@@ -85,7 +85,7 @@ public final class Boundary10TrackedTest {
     }
 
     private static void udpSeqPlaysNoPart(Check check) {
-        check.sentence("the packet is accepted");
+        check.sentence("UDP: the packet is accepted.");
         for (int seq = 0; seq < 256; seq++) {
             StatefulFirewall firewall = Sample.acceptAll();
             FLOW.udp(firewall, 0);
@@ -188,7 +188,8 @@ public final class Boundary10TrackedTest {
             check.due(call, verdict, V_INVALID);
         }
         if (verdict == V_INVALID) {
-            check.changesNothing(call, inState(state), firewall -> FLOW.tcp(firewall, direction, flags, seq), V_INVALID);
+            check.changesNothing(call, inState(state),
+                firewall -> FLOW.tcp(firewall, direction, flags, seq), V_INVALID);
         }
     }
 
@@ -217,7 +218,7 @@ public final class Boundary10TrackedTest {
     }
 
     private static void synSentTakesRetransmits(Check check) {
-        check.sentence("d = 0, flags == SYN, seq a retransmit for 0: the state stays.");
+        check.sentence("SYN_SENT: d = 0, flags == SYN, seq a retransmit for 0: the state stays.");
         passes(check, StatefulFirewall.SYN_SENT, 0, SYN, -2, StatefulFirewall.NONE);
         passes(check, StatefulFirewall.SYN_SENT, 0, SYN, -1, StatefulFirewall.SYN_SENT);
         passes(check, StatefulFirewall.SYN_SENT, 0, SYN, 0, StatefulFirewall.NONE);
@@ -234,7 +235,7 @@ public final class Boundary10TrackedTest {
     }
 
     private static void synRecvTakesRetransmits(Check check) {
-        check.sentence("d = 1, flags == SYN+ACK, seq a retransmit for 1: the state stays.");
+        check.sentence("SYN_RECV: d = 1, flags == SYN+ACK, seq a retransmit for 1: the state stays.");
         passes(check, StatefulFirewall.SYN_RECV, 1, SYN_ACK, -2, StatefulFirewall.NONE);
         passes(check, StatefulFirewall.SYN_RECV, 1, SYN_ACK, -1, StatefulFirewall.SYN_RECV);
         passes(check, StatefulFirewall.SYN_RECV, 1, SYN_ACK, 0, StatefulFirewall.NONE);
@@ -245,17 +246,19 @@ public final class Boundary10TrackedTest {
     private static void windowsOfEveryState(Check check) {
         // The sentence, the state and the flags, and the new state by direction, 0 where the packet is invalid.
         window(check, "d = 0, flags == ACK, in window: the state becomes ESTABLISHED.", 2, ACK, 3, 0);
-        String stays = "flags == ACK, in window: the state stays.";
-        window(check, stays, StatefulFirewall.ESTABLISHED, ACK, 3, 3);
-        window(check, stays, StatefulFirewall.FIN_ORIG, ACK, 4, 4);
-        window(check, stays, StatefulFirewall.FIN_REPLY, ACK, 5, 5);
-        window(check, "the state becomes FIN_ORIG if d = 0, or FIN_REPLY if d = 1.", 3, ACK_FIN, 4, 5);
-        window(check, "the state stays if d = 0, or becomes CLOSING if d = 1.", 4, ACK_FIN, 4, 6);
-        window(check, "the state stays if d = 1, or becomes CLOSING if d = 0.", 5, ACK_FIN, 6, 5);
-        window(check, "flags == ACK, in window: the state becomes TIME_WAIT.", 6, ACK, 7, 7);
+        window(check, "ESTABLISHED: flags == ACK, in window: the state stays.", 3, ACK, 3, 3);
+        window(check, "flags == ACK+FIN, in window: the state becomes FIN_ORIG if d = 0, or FIN_REPLY if d = 1.",
+            3, ACK_FIN, 4, 5);
+        window(check, "FIN_ORIG: flags == ACK, in window: the state stays.", 4, ACK, 4, 4);
+        window(check, "flags == ACK+FIN, in window: the state stays if d = 0, or becomes CLOSING if d = 1.",
+            4, ACK_FIN, 4, 6);
+        window(check, "FIN_REPLY: flags == ACK, in window: the state stays.", 5, ACK, 5, 5);
+        window(check, "flags == ACK+FIN, in window: the state stays if d = 1, or becomes CLOSING if d = 0.",
+            5, ACK_FIN, 6, 5);
+        window(check, "CLOSING: flags == ACK, in window: the state becomes TIME_WAIT.", 6, ACK, 7, 7);
         window(check, "flags == ACK+FIN, in window: the state stays.", 6, ACK_FIN, 6, 6);
-        window(check, "flags == ACK or ACK+FIN, in window: the state stays.", 7, ACK, 7, 7);
-        window(check, "flags == ACK or ACK+FIN, in window: the state stays.", 7, ACK_FIN, 7, 7);
+        window(check, "TIME_WAIT: flags == ACK or ACK+FIN, in window: the state stays.", 7, ACK, 7, 7);
+        window(check, "TIME_WAIT: flags == ACK or ACK+FIN, in window: the state stays.", 7, ACK_FIN, 7, 7);
     }
 
     private static void window(Check check, String sentence, int state, int flags, int byOrigin, int byReply) {

@@ -1,11 +1,12 @@
-/** The boundary cases that promise 2 names. */
-public final class Boundary02AddRuleTest {
+/** Every sentence of promise 2. */
+public final class Sentences02AddRuleTest {
     private static final int BAD = StatefulFirewall.BAD;
 
     public static void main(String[] args) {
         Check check = new Check();
         appendsAtCount(check);
         refusesAnyInvalidPart(check);
+        refusesNoOtherCase(check);
         refusesPrefixes(check);
         refusesPortRanges(check);
         refusesProtoActions(check);
@@ -27,7 +28,7 @@ public final class Boundary02AddRuleTest {
     }
 
     private static void appendsAtCount(Check check) {
-        check.sentence("appends a rule at index count");
+        check.sentence("addRule(srcPrefix, dstPrefix, portRange, protoAction) appends a rule at index count.");
         StatefulFirewall firewall = Sample.busy();
         firewall.addRule(79, 64, 17, 5);
         check.due("ruleInfo(3, 0)", firewall.ruleInfo(3, 0), 79);
@@ -44,6 +45,28 @@ public final class Boundary02AddRuleTest {
             adds(check, prefixes[number & 1], prefixes[number >> 1 & 1], ranges[number >> 2 & 1], actions[number >> 3],
                 number == 0);
         }
+    }
+
+    private static void refusesNoOtherCase(Check check) {
+        check.sentence("The refused cases are");
+        // How many values each part has; the three cases below leave no other.
+        int prefixes = 0;
+        int ranges = 0;
+        int actions = 0;
+        for (int part = -300; part <= 600; part++) {
+            prefixes += taken(part, 0, 240, 6);
+            check.due("prefix " + part + " as target", taken(0, part, 240, 6), taken(part, 0, 240, 6));
+            ranges += taken(0, 0, part, 6);
+            actions += taken(0, 0, 240, part);
+        }
+        check.due("prefixes taken", prefixes, 1 + 2 + 4 + 8 + 16);
+        check.due("port ranges taken", ranges, 16 * 17 / 2);
+        check.due("protocols with actions taken", actions, 3 * 2);
+    }
+
+    /** 1 if a firewall with room takes the rule, else 0. */
+    private static int taken(int src, int dst, int range, int action) {
+        return Sample.busy().addRule(src, dst, range, action) == BAD ? 0 : 1;
     }
 
     private static void refusesPrefixes(Check check) {

@@ -1,11 +1,12 @@
-/** The boundary cases that "Terms" names under "Addresses, ports, headers". */
-public final class BoundaryTermsHeadersTest {
+/** Every sentence of "Terms" under "Addresses, ports, headers". */
+public final class SentencesTermsHeadersTest {
     private static final int BAD = StatefulFirewall.BAD;
     private static final int NO_MATCH = StatefulFirewall.NO_MATCH;
 
     public static void main(String[] args) {
         Check check = new Check();
         addressesAndPortsHaveFourBits(check);
+        headerIsThreeInts(check);
         addrsAreWithin255(check);
         portsAreWithin255(check);
         protoIsTcpOrUdp(check);
@@ -28,6 +29,32 @@ public final class BoundaryTermsHeadersTest {
                 int want = first ? 0 : second ? 1 : NO_MATCH;
                 String call = HeaderCall.MATCHING_RULE.told(addrs, ports, 0);
                 check.due(call, firewall.matchingRule(addrs, ports, 0), want);
+            }
+        }
+    }
+
+    private static void headerIsThreeInts(Check check) {
+        check.sentence("A header is given as three ints: addrs = src + 16*dst, valid 0..255; "
+            + "ports = sport + 16*dport, valid 0..255; proto = TCP (0) or UDP (1).");
+        for (int value = 0; value < 16; value++) {
+            // One flow whose four numbers differ; the replies are the header with the halves of both ints turned.
+            int src = value;
+            int dst = value + 3 & 15;
+            int sport = value + 7 & 15;
+            int dport = value + 12 & 15;
+            StatefulFirewall firewall = Sample.dropAll();
+            firewall.addRule(Sample.prefix(src, 4), Sample.prefix(dst, 4), Sample.range(dport, dport), 6);
+            for (int proto = 0; proto < 2; proto++) {
+                int protoFlags = proto == Sample.UDP ? Sample.UDP : Sample.tcp(Sample.SYN);
+                int addrs = src + 16 * dst;
+                int ports = sport + 16 * dport;
+                int backAddrs = dst + 16 * src;
+                int backPorts = dport + 16 * sport;
+                check.due("matchingRule", firewall.matchingRule(addrs, ports, proto), 0);
+                check.due("matchingRule back", firewall.matchingRule(backAddrs, backPorts, proto), NO_MATCH);
+                check.due("packet", firewall.packet(addrs, ports, protoFlags, 0), StatefulFirewall.V_NEW);
+                check.due("direction", firewall.connDirection(addrs, ports, proto), 0);
+                check.due("direction back", firewall.connDirection(backAddrs, backPorts, proto), 1);
             }
         }
     }

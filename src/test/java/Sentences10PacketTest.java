@@ -1,7 +1,7 @@
 import java.util.function.Supplier;
 
-/** The boundary cases that promise 10 names in its steps 1 and 3. */
-public final class Boundary10PacketTest {
+/** Every sentence of promise 10 on its steps 1 and 3. */
+public final class Sentences10PacketTest {
     private static final int BAD = StatefulFirewall.BAD;
     private static final int V_DROP = StatefulFirewall.V_DROP;
     private static final int V_NEW = StatefulFirewall.V_NEW;
@@ -109,7 +109,7 @@ public final class Boundary10PacketTest {
     }
 
     private static void refusalComesFirst(Check check) {
-        check.sentence("The call answers BAD and changes nothing unless all of these hold");
+        check.sentence("Step 1: refusal. The call answers BAD and changes nothing unless all of these hold");
         int[] pairs = {Sample.ADDRS, 256};
         int[] protoFlags = {ACK, 33};
         int[] seqs = {11, 256};
