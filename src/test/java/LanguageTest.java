@@ -28,6 +28,12 @@ public final class LanguageTest {
         + "instanceof|null|float|double|super|native|volatile|transient|interface|enum|record|var|"
         + "Math|Integer|Long|String|System|Arrays|Object)\\b|->|::|\"|\\[\\s*\\]\\s*\\[";
 
+    // A method's head on one line, its name being the first group, and its body, the second.
+    private static final Pattern METHOD = Pattern.compile(
+        "(?ms)^    (?:public|private)[^;={\\n]*?(\\w+)\\([^)\\n]*\\) \\{\n(.*?)^    \\}");
+    private static final Pattern CALL = Pattern.compile("\\b(?!(?:if|for|while|switch|return)\\b)(\\w+)\\(");
+    private static final int DEEPEST = 6;
+
     private static final Check CHECK = new Check();
 
     public static void main(String[] args) throws IOException, IllegalAccessException {
@@ -37,7 +43,9 @@ public final class LanguageTest {
         String source = withoutComments(Files.readString(Path.of("src/main/java/StatefulFirewall.java")));
         sourceKeepsToTheWords(source);
         arraysAreMadeInFields(source);
+        noCallStandsInACall(source);
         methodsAreShort(source);
+        callsAreShallow(source);
         CHECK.end();
     }
 
@@ -112,12 +120,28 @@ public final class LanguageTest {
         while (matcher.find()) {
             CHECK.due("the source has " + matcher.group(), true, false);
         }
-        // No call stands inside the arguments of another one.
-        Matcher call = Pattern.compile("\\b(?!if|for|while|switch|return)\\w+\\([^()]*\\b(?!if|for|while)\\w+\\(")
-            .matcher(source);
-        while (call.find()) {
-            CHECK.due("a call inside a call: " + call.group(), true, false);
+    }
+
+    private static void noCallStandsInACall(String source) {
+        Matcher method = METHOD.matcher(source);
+        while (method.find()) {
+            Matcher call = CALL.matcher(method.group(2));
+            while (call.find()) {
+                String arguments = untilClosed(method.group(2).substring(call.end()));
+                CHECK.due("a call inside " + call.group() + arguments, CALL.matcher(arguments).find(), false);
+            }
         }
+    }
+
+    /** The text up to the bracket that closes what was opened before it. */
+    private static String untilClosed(String text) {
+        int open = 1;
+        int at = 0;
+        while (open > 0) {
+            char letter = text.charAt(at++);
+            open += letter == '(' ? 1 : letter == ')' ? -1 : 0;
+        }
+        return text.substring(0, at - 1);
     }
 
     private static void arraysAreMadeInFields(String source) {
@@ -129,14 +153,40 @@ public final class LanguageTest {
     }
 
     private static void methodsAreShort(String source) {
-        Matcher matcher = Pattern.compile("(?ms)^    (?:public|private)[^;={]*\\{\n.*?^    \\}").matcher(source);
+        Matcher method = METHOD.matcher(source);
         int methods = 0;
-        while (matcher.find()) {
+        while (method.find()) {
             methods++;
-            long lines = matcher.group().lines().count();
-            CHECK.due("a short method: " + matcher.group().lines().findFirst().orElse(""), lines <= 60, true);
+            CHECK.due("a short method: " + method.group(1), method.group().lines().count() <= 60, true);
         }
         int declared = StatefulFirewall.class.getDeclaredMethods().length + 1;
         CHECK.due("methods seen in the source", methods, declared);
+    }
+
+    private static void callsAreShallow(String source) {
+        Map<String, Set<String>> calls = new TreeMap<>();
+        Matcher method = METHOD.matcher(source);
+        while (method.find()) {
+            Set<String> called = calls.computeIfAbsent(method.group(1), name -> new TreeSet<>());
+            Matcher call = CALL.matcher(method.group(2));
+            while (call.find()) {
+                called.add(call.group(1));
+            }
+        }
+        for (String name : calls.keySet()) {
+            CHECK.due("calls from " + name + " go at most six deep", depth(name, calls, 1) <= DEEPEST, true);
+        }
+    }
+
+    /** How deep the calls go from a method at this depth; recursion shows as one deeper than is allowed. */
+    private static int depth(String name, Map<String, Set<String>> calls, int depth) {
+        int deepest = depth;
+        if (depth <= DEEPEST) {
+            CHECK.due(name + " is a method of the class", calls.containsKey(name), true);
+            for (String called : calls.getOrDefault(name, Set.of())) {
+                deepest = Math.max(deepest, depth(called, calls, depth + 1));
+            }
+        }
+        return deepest;
     }
 }
